@@ -42,15 +42,17 @@ public final class RopeSchool {
     private final int[] slots = new int[STATES];
 
     public RopeSchool() {
+        Rope untold = new Rope();
+        Beats shared = new Beats(untold);
         faultPlace = NONE;
         pole = 1;
-        rope = new Rope();
+        rope = untold;
         draft = new Rope();
         parser = new Parser();
-        beats = new Beats(rope);
-        rounds = new Rounds(beats);
-        reflexes = new Reflexes(beats);
-        rows = new Rows(beats);
+        beats = shared;
+        rounds = new Rounds(shared);
+        reflexes = new Reflexes(shared);
+        rows = new Rows(shared);
         walk = new Walk();
     }
 
@@ -784,14 +786,14 @@ public final class RopeSchool {
             if (!takeSigned(-1, 1)) {
                 return false;
             }
-            int step = number;
-            int condition = rope.size;
+            int stride = number;
+            int cond = rope.size;
             if (kind() != Tokens.IF) {
-                condition = NONE;
+                cond = NONE;
             } else if (!step() || !condition()) {
                 return false;
             }
-            rope.addAct(name, push, step, condition);
+            rope.addAct(name, push, stride, cond);
             return take(Tokens.SEMICOLON);
         }
 
@@ -815,13 +817,13 @@ public final class RopeSchool {
                 return false;
             }
             int high = number;
-            int condition = rope.size;
+            int cond = rope.size;
             if (kind() != Tokens.IF) {
-                condition = NONE;
+                cond = NONE;
             } else if (!step() || !condition()) {
                 return false;
             }
-            rope.addGusts(from, to, low, high, condition);
+            rope.addGusts(from, to, low, high, cond);
             return take(Tokens.SEMICOLON);
         }
 
@@ -832,7 +834,7 @@ public final class RopeSchool {
             if (!step()) {
                 return false;
             }
-            int condition = rope.size;
+            int cond = rope.size;
             if (!condition() || !take(Tokens.DO)) {
                 return false;
             }
@@ -843,7 +845,7 @@ public final class RopeSchool {
             if (!take(Tokens.NAME)) {
                 return false;
             }
-            rope.addReflex(condition, act);
+            rope.addReflex(cond, act);
             return take(Tokens.SEMICOLON);
         }
 
@@ -1027,31 +1029,31 @@ public final class RopeSchool {
             }
         }
 
-        void addAct(long name, int push, int step, int condition) {
+        void addAct(long name, int push, int stride, int cond) {
             if (acts < MOST_ACTS) {
                 names[acts] = name;
                 pushes[acts] = push;
-                steps[acts] = step;
-                actConds[acts] = condition;
+                steps[acts] = stride;
+                actConds[acts] = cond;
                 acts++;
             }
         }
 
-        void addGusts(int from, int to, int low, int high, int condition) {
+        void addGusts(int from, int to, int low, int high, int cond) {
             int row = gusts * GUST_ROW;
             if (row + GUST_ROW <= gustRows.length) {
                 gustRows[row] = from;
                 gustRows[row + 1] = to;
                 gustRows[row + 2] = low;
                 gustRows[row + 3] = high;
-                gustRows[row + 4] = condition;
+                gustRows[row + 4] = cond;
                 gusts++;
             }
         }
 
-        void addReflex(int condition, int act) {
+        void addReflex(int cond, int act) {
             if (reflexes < MOST_REFLEXES) {
-                reflexConds[reflexes] = condition;
+                reflexConds[reflexes] = cond;
                 reflexActs[reflexes] = act;
                 reflexes++;
             }
@@ -1135,12 +1137,12 @@ public final class RopeSchool {
         }
 
         /** Without a COND (NONE) it holds. */
-        boolean holds(int[] words, int condition) {
-            if (condition == NONE) {
+        boolean holds(int[] words, int cond) {
+            if (cond == NONE) {
                 return true;
             }
             boolean all = true;
-            int at = condition;
+            int at = cond;
             for (int literals = 0; literals <= words.length; literals++) {
                 at = run(words, at);
                 int word = at >= 0 && at < words.length ? words[at] : END;
@@ -1332,7 +1334,12 @@ public final class RopeSchool {
 
         /** The first ACT of a mask, or NOT_SO. */
         static int firstOf(int mask) {
-            return mask == 0 ? NOT_SO : Integer.numberOfTrailingZeros(mask);
+            for (int act = 0; act < MOST_ACTS; act++) {
+                if ((mask >> act & 1) == 1) {
+                    return act;
+                }
+            }
+            return NOT_SO;
         }
 
         /** The STATE behind a BEAT by an ACT, whether it CAN be done or not, or FELL. */
@@ -1472,7 +1479,7 @@ public final class RopeSchool {
             return true;
         }
 
-        /** The first ACT, no earlier than from, that CAN be done and leads well with gusts by more beyond; else NONE. */
+        /** The first ACT from one on that CAN be done and leads well, with gusts by more beyond; else NONE. */
         private int firstGood(int[] marks, int floor, int state, int from, int more) {
             int mask = beats.mask(state);
             int low = beats.least(state) - more;
