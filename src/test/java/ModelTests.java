@@ -70,22 +70,27 @@ public final class ModelTests {
         if (chance(60)) {
             return swing
                 ? pick("swing+lean/3+gust-push*pole", "swing+lean/4+gust-push", "(swing+gust-push*pole)/2+lean/5",
-                    "swing-push+gust/pole", "swing+lean/2-push*pole+gust", "swing*lean/at+gust-push")
-                : pick("lean+swing", "lean+swing/2", "lean-swing", "lean/2+swing", "lean+swing+at-at", "lean+swing/pole");
+                    "swing-push+gust/pole", "swing+lean/2-push*pole+gust", "swing*lean/at+gust-push", "-5+gust-push")
+                : pick("lean+swing", "lean+swing/2", "lean-swing", "lean/2+swing", "lean+swing+at-at", "lean+swing/pole",
+                    "lean*2+swing", "-10+gust");
         }
         return sum(0);
     }
 
     private static String text() {
         StringBuilder text = new StringBuilder();
-        if (chance(90)) {
-            text.append("rope ").append(1 + lot(chance(20) ? 8 : 4)).append("; ");
+        if (chance(8)) {
+            text.append("rope 4;".repeat(100 + lot(34))).append("lean lean+swing;".repeat(lot(2)));
         }
-        if (chance(90)) {
-            text.append("wide ").append(1 + lot(chance(20) ? 10 : 5)).append("; ");
+        boolean corners = chance(10);
+        if (chance(90) || corners) {
+            text.append("rope ").append(1 + lot(corners ? 2 : chance(20) ? 8 : 4)).append("; ");
         }
-        if (chance(90)) {
-            text.append("fast ").append(1 + lot(chance(20) ? 5 : 4)).append("; ");
+        if (chance(90) || corners) {
+            text.append("wide ").append(corners ? 10 : 1 + lot(chance(20) ? 10 : 5)).append("; ");
+        }
+        if (chance(90) || corners) {
+            text.append("fast ").append(corners ? 5 : 1 + lot(chance(20) ? 5 : 4)).append("; ");
         }
         int acts = lot(7);
         for (int i = 0; i < acts; i++) {
@@ -147,6 +152,9 @@ public final class ModelTests {
             return m.state(0, 0, 0);
         }
         List<Integer> all = m.states();
+        if (chance(10)) {
+            return all.get(chance(50) ? 0 : all.size() - 1);
+        }
         return all.get(lot(all.size()));
     }
 
@@ -270,6 +278,9 @@ public final class ModelTests {
         RopeSchool x = new RopeSchool();
         Model m = new Model();
         List<String> told = new ArrayList<>();
+        for (int i = chance(10) ? 40 : 0; i > 0; i--) {
+            call(x, m, "run " + seed + " untold");
+        }
         for (int reads = 1 + lot(3); reads > 0; reads--) {
             String text = text();
             for (int i = lot(3); i > 0; i--) {
