@@ -163,6 +163,14 @@ public final class CornerTests {
         DUE.is("odds, OVER", x.odds(115, 2, 1), 1);
         DUE.is("blind", x.blind(115, 2), 1);
         DUE.is("the last STATE", x.next(230, 0, 12), 0);
+        x = told("rope 1; wide 10; fast 5; act in 0 0 if lean != -9; swing -5; lean -10+lean/-10; gusts 0 0 2 2 if lean == -10;");
+        DUE.is("into STATE 0 and on to a fall", x.proof(115), 3);
+        DUE.is("witness 0", x.witness(115, 0), 0);
+        DUE.is("witness 1", x.witness(115, 1), 2);
+        DUE.is("witness 2", x.witness(115, 2), 0);
+        x = told("wide 10; fast 5; act st 0 0 if at != 0 or lean != -10 or swing != -5 or pole == 3; swing swing; lean lean;");
+        DUE.is("STATE 0 alone is not SAFE", x.doom(), 0);
+        DUE.is("but with POLE 3", x.poles(0), 3);
         x = told("rope 8; wide 10; fast 5; swing 5; lean 10;");
         DUE.is("the last STATE of all", x.next(7 * 231, 0, 12), 2078);
         DUE.is("it is OVER", x.fate(2078), -2);
