@@ -1359,7 +1359,7 @@ public final class RopeSchool {
                 entry = leap(state, act, gust) + 3;
                 afters[index] = group | (long) entry << shift;
             }
-            return entry - 3;
+            return entry - 3 < STATES ? entry - 3 : FELL;
         }
 
         private int leap(int state, int act, int gust) {
@@ -2013,10 +2013,11 @@ public final class RopeSchool {
                     if (to < 0) {
                         return false;
                     }
-                    if (!beats.rope.isOver(to) && met[to] != meeting) {
+                    int size = setSizes[level + 1];
+                    if (!beats.rope.isOver(to) && met[to] != meeting && size < STATES) {
                         met[to] = meeting;
-                        sets[(level + 1) * STATES + setSizes[level + 1]] = to;
-                        setSizes[level + 1]++;
+                        sets[(level + 1) * STATES + size] = to;
+                        setSizes[level + 1] = size + 1;
                     }
                 }
             }
