@@ -36,7 +36,12 @@ final class Book {
     private int asked;
     private int wrong;
 
+    /** Where the document does not lie at hand all is asked for, but no quote is looked up. */
     Book(Path document) throws IOException {
+        if (!Files.exists(document)) {
+            System.out.println("there is no " + document + ": quotes are not looked up");
+            return;
+        }
         String name = "";
         StringBuilder text = new StringBuilder();
         for (String line : Files.readAllLines(document)) {
@@ -51,7 +56,8 @@ final class Book {
         parts.put(name, new Part(plain(text.toString())));
     }
 
-    /** Without what is there for the eye alone: fences, the heads of parts, the line of the face that a promise is of. */
+    /** Without what is there for the eye alone: fences, the heads of parts,
+        the line of the face that a promise is of. */
     private static String plain(String text) {
         return text.replaceAll("```[a-z]*", " ").replaceAll("==== [IV]+\\.", " ").replaceAll("^ *`[^`]*`:", " ")
             .replaceAll("\\s+", " ");
@@ -67,6 +73,9 @@ final class Book {
         quote = part + ": " + sentence;
         askedHere = 0;
         quotes++;
+        if (parts.isEmpty()) {
+            return;
+        }
         Part of = parts.get(part);
         int first = of == null ? -1 : of.text.indexOf(sentence);
         if (first < 0) {

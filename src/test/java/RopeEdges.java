@@ -69,7 +69,8 @@ final class RopeEdges {
                 for (int lean = -r[1] - 1; lean <= r[1] + 1; lean += r[1] + 1) {
                     for (int swing = -r[2] - 1; swing <= r[2] + 1; swing += r[2] + 1) {
                         boolean is = at >= 0 && at <= r[0] && lean == 0 && swing == 0;
-                        b.is("state " + at + " " + lean + " " + swing, x.state(at, lean, swing), is ? Book.number(at, 0, 0) : -1);
+                        int due = is ? Book.number(at, 0, 0) : -1;
+                        b.is("state " + at + " " + lean + " " + swing, x.state(at, lean, swing), due);
                     }
                 }
                 boolean there = at >= 0 && at <= r[0];
@@ -146,7 +147,8 @@ final class RopeEdges {
 
     private void can() {
         b.says("Terms", "an ACT CAN be done in a STATE that is not OVER if its COND holds there (or it has none);");
-        RopeSchool x = b.told("rope 2; wide 2; fast 2; act a 0 0; act b 0 0 if 0 <= lean; act c 0 0 if at == 2 or swing == -2;");
+        RopeSchool x = b.told("rope 2; wide 2; fast 2; act a 0 0; act b 0 0 if 0 <= lean; "
+            + "act c 0 0 if at == 2 or swing == -2;");
         for (int at = 0; at <= 2; at++) {
             for (int lean = -2; lean <= 2; lean++) {
                 int s = Book.number(at, lean, lean);
@@ -200,7 +202,8 @@ final class RopeEdges {
         x = b.told("rope 1; gusts 0 8 -6 6;");
         b.is("places beyond the ROPE", x.gust(Book.number(1, 0, 0), true), 6);
         b.says("Terms", "of several that hold the last one told, if none does gust 0 alone.");
-        x = b.told("rope 8; gusts 0 5 1 2; gusts 3 7 -2 -1; gusts 5 5 4 4 if lean == 1; gusts 0 8 6 6 if lean == 2 and at == 0;");
+        x = b.told("rope 8; gusts 0 5 1 2; gusts 3 7 -2 -1; gusts 5 5 4 4 if lean == 1; "
+            + "gusts 0 8 6 6 if lean == 2 and at == 0;");
         int[] least = {1, 1, 1, -2, -2, -2, -2, -2, 0};
         int[] greatest = {2, 2, 2, -1, -1, -1, -1, -1, 0};
         for (int at = 0; at <= 8; at++) {
@@ -216,6 +219,11 @@ final class RopeEdges {
         x = b.told("gusts 0 3 -6 6;");
         b.is("least", x.gust(115, false), -6);
         b.is("greatest", x.gust(115, true), 6);
+        x = b.told(GREATEST_ROPE + "gusts 0 0 -4 3; gusts 8 8 -2 5;");
+        b.is("STATE 0, least", x.gust(0, false), -4);
+        b.is("STATE 0, greatest", x.gust(0, true), 3);
+        b.is("the last STATE, least", x.gust(2078, false), -2);
+        b.is("the last STATE, greatest", x.gust(2078, true), 5);
         b.says(9, "-100: no such one.");
         b.justStates("gust, least", "gusts 0 8 -6 6;", -100, (y, s) -> y.gust(s, false));
         b.justStates("gust, greatest", "gusts 0 8 -6 6;", -100, (y, s) -> y.gust(s, true));
@@ -224,17 +232,20 @@ final class RopeEdges {
     // ---- sums ----
 
     private void vars() {
-        b.says("Terms", "VARS: at, lean, swing of the STATE, push of the ACT, gust, pole (the POLE, 1 .. 4, 1 at first);");
+        b.says("Terms", "VARS: at, lean, swing of the STATE, push of the ACT, gust, pole (the POLE, 1 .. 4, 1 at "
+            + "first);");
         for (int at = 0; at <= 7; at += 7) {
             for (int lean = -10; lean <= 10; lean += 10) {
                 for (int swing = -5; swing <= 5; swing += 5) {
-                    RopeSchool x = b.told(GREATEST_ROPE + "act a 0 0 if at == " + at + " and lean == " + lean + " and swing == " + swing + ";");
+                    String cond = "at == " + at + " and lean == " + lean + " and swing == " + swing;
+                    RopeSchool x = b.told(GREATEST_ROPE + "act a 0 0 if " + cond + ";");
                     b.is("the VARS of a STATE", x.can(Book.number(at, lean, swing), 0), 1);
                     b.is("and of another one", x.can(Book.number(3, lean, swing), 0), 0);
                 }
             }
         }
-        RopeSchool x = b.told(GREATEST_ROPE + "act a 9 0 if push == 9; act b -9 0 if push == -9; act c 1 0 if push != 1;"
+        RopeSchool x = b.told(GREATEST_ROPE + "act a 9 0 if push == 9; act b -9 0 if push == -9; "
+            + "act c 1 0 if push != 1;"
             + "swing pole; lean push*gust;");
         b.is("push 9", x.can(115, 0), 1);
         b.is("push -9", x.can(115, 1), 1);
@@ -254,8 +265,10 @@ final class RopeEdges {
 
     private void noActNoGust() {
         b.says("Terms", "where there is no ACT, no gust, these are 0.");
-        RopeSchool x = b.told("act a 9 0 if gust == 0; act b 9 0 if gust != 0; act c 5 0; gusts 0 8 1 6 if push == 0 and gust == 0;"
-            + "gusts 0 8 2 2 if push != 0 or gust != 0; reflex push != 0 or gust != 0 do a; reflex push == 0 and gust == 0 do c;");
+        RopeSchool x = b.told("act a 9 0 if gust == 0; act b 9 0 if gust != 0; act c 5 0; "
+            + "gusts 0 8 1 6 if push == 0 and gust == 0;"
+            + "gusts 0 8 2 2 if push != 0 or gust != 0; reflex push != 0 or gust != 0 do a; "
+                + "reflex push == 0 and gust == 0 do c;");
         b.is("no gust in the COND of an ACT", x.can(115, 0), 1);
         b.is("no gust in the COND of an ACT", x.can(115, 1), 0);
         b.is("neither in the COND of gusts", x.gust(115, true), 6);
@@ -285,6 +298,10 @@ final class RopeEdges {
         holds(LEAST + "+" + LEAST + " == 0");
         holds("0-" + LEAST + " == " + LEAST);
         holds(LEAST + "/2 == -8192*8192*16");
+        holds("-(" + LEAST + ")/2 == -8192*8192*16");
+        holds("-(" + LEAST + "/2) == 8192*8192*16");
+        holds("3-(" + LEAST + ")/2 == 8192*8192*16+3");
+        holds("2*-(" + LEAST + ")/4 == 0");
         holds(LEAST + " < " + LEAST + "-1");
         // 9999 * 9999 * 9999 is 999,700,029,999, and that 233 times 2 ^ 32 less is below 0
         holds("9999*9999*9999 == -(1027*1000*1000+349*1000+969)");
@@ -308,9 +325,13 @@ final class RopeEdges {
             for (String how : new String[] {"==", "!=", "<", "<="}) {
                 for (int side = 0; side < 2; side++) {
                     String lit = side == 0 ? sum + how + "1" : "1" + how + sum;
-                    RopeSchool x = b.told("act a 0 0 if " + lit + "; act b 0 0 if not " + lit + "; act c 0 0 if not not " + lit
-                        + "; act d 0 0 if " + lit + " or 1 == 1; act e 0 0 if 1 == 1 and " + lit + "; act f 0 0 if 1 == 2 or not "
-                        + lit + " and 1 == 1;");
+                    String[] conds = {lit, "not " + lit, "not not " + lit, lit + " or 1 == 1", "1 == 1 and " + lit,
+                        "1 == 2 or not " + lit + " and 1 == 1"};
+                    StringBuilder acts = new StringBuilder();
+                    for (int a = 0; a < 6; a++) {
+                        acts.append("act ").append((char) ('a' + a)).append(" 0 0 if ").append(conds[a]).append(';');
+                    }
+                    RopeSchool x = b.told(acts.toString());
                     int[] want = {0, 1, 0, 1, 0, 1};
                     for (int a = 0; a < 6; a++) {
                         b.is("ACT " + a + " of " + lit, x.can(115, a), want[a]);
@@ -318,7 +339,8 @@ final class RopeEdges {
                 }
             }
         }
-        RopeSchool x = b.told("act a 0 0; act b 0 0; gusts 0 8 1 1; gusts 0 8 2 2 if 1/lean == 1; gusts 0 8 3 3 if not 1/swing < 9;"
+        RopeSchool x = b.told("act a 0 0; act b 0 0; gusts 0 8 1 1; gusts 0 8 2 2 if 1/lean == 1; "
+            + "gusts 0 8 3 3 if not 1/swing < 9;"
             + "reflex 1/lean != 7 do b; reflex not 1/swing < 9 do b;");
         b.is("gusts, neither divides", x.gust(Book.number(0, 1, 1), true), 2);
         b.is("gusts, the first divides by 0", x.gust(Book.number(0, 0, 1), true), 1);
@@ -333,7 +355,8 @@ final class RopeEdges {
     private void beat() {
         b.says("Terms", "A BEAT from a STATE that is not OVER by an ACT and a gust: the next SWING is the law swing,"
             + " the next LEAN the law lean with that as swing;");
-        RopeSchool x = b.told(GREATEST_ROPE + "act a 2 1; swing swing+lean-at+push-gust+pole; lean lean+swing*2+at-push+gust-pole;");
+        RopeSchool x = b.told(GREATEST_ROPE + "act a 2 1; swing swing+lean-at+push-gust+pole; "
+            + "lean lean+swing*2+at-push+gust-pole;");
         // swing 1 + 2 - 3 + 2 - 1 + 1 = 2; lean 2 + 4 + 3 - 2 + 1 - 1 = 7
         b.is("all VARS in both laws", x.next(Book.number(3, 2, 1), 0, 1), Book.number(4, 7, 2));
         x = b.told(GREATEST_ROPE + "swing at; lean at;");
@@ -363,7 +386,8 @@ final class RopeEdges {
             // -10 / 4 is -2, -3 / 4 is 0
             int swing = lean < 0 ? -(-lean / 4) : lean / 4;
             boolean stays = lean + swing >= -10 && lean + swing <= 10;
-            b.is("lean " + lean, x.next(Book.number(2, lean, 0), 0, 0), stays ? Book.number(3, lean + swing, swing) : -2);
+            int due = stays ? Book.number(3, lean + swing, swing) : -2;
+            b.is("lean " + lean, x.next(Book.number(2, lean, 0), 0, 0), due);
         }
         for (int p = 1; p <= 4; p++) {
             x.pole(p);
@@ -378,7 +402,8 @@ final class RopeEdges {
     }
 
     private void falls() {
-        b.says("Terms", "The walker FALLS if a law divides by 0, LEAN is beyond W or SWING beyond F then (either way).");
+        b.says("Terms", "The walker FALLS if a law divides by 0, LEAN is beyond W or SWING beyond F then (either "
+            + "way).");
         for (int size = 1; size <= 5; size++) {
             RopeSchool x = b.told("wide " + 2 * size + "; fast " + size + "; swing gust; lean gust*2;");
             RopeSchool y = b.told("wide " + size + "; fast " + size + "; swing 0; lean gust;");
@@ -393,7 +418,8 @@ final class RopeEdges {
         RopeSchool x = b.told(GREATEST_ROPE + "swing gust; lean gust*2;");
         b.is("the greatest ones", x.next(115, 0, 5), Book.number(1, 10, 5));
         b.is("the least ones", x.next(115, 0, -5), Book.number(1, -10, -5));
-        x = b.told(GREATEST_ROPE + "act a 0 1; act b 1 1; act c 2 1; act d 3 1; swing push*" + LEAST + "; lean gust*(" + LEAST + "-1);");
+        x = b.told(GREATEST_ROPE + "act a 0 1; act b 1 1; act c 2 1; act d 3 1; "
+            + "swing push*" + LEAST + "; lean gust*(" + LEAST + "-1);");
         b.is("neither", x.next(115, 0, 0), Book.number(1, 0, 0));
         b.is("SWING -2 ^ 31", x.next(115, 1, 0), -2);
         b.is("LEAN 2 ^ 31 - 1", x.next(115, 0, 1), -2);
@@ -455,11 +481,28 @@ final class RopeEdges {
 
     private void next() {
         b.says(10, "The STATE behind a BEAT;");
-        RopeSchool x = b.told("rope 8; wide 10; fast 5; act a 0 1; act b 0 0 if lean == 0; gusts 0 0 1 1; swing 5*gust/12; lean 10*gust/12;");
+        RopeSchool x = b.told("rope 8; wide 10; fast 5; act a 0 1; act b 0 0 if lean == 0; gusts 0 0 1 1; "
+            + "swing 5*gust/12; lean 10*gust/12;");
         for (int gust = -12; gust <= 12; gust++) {
             b.is("gust " + gust, x.next(Book.number(7, 10, 5), 0, gust), Book.number(8, 10 * gust / 12, 5 * gust / 12));
         }
         b.is("into the last STATE of all", x.next(0, 0, 12), Book.number(1, 10, 5));
+        x = b.told(GREATEST_ROPE + "act a 0 0; act b 1 0; act c 2 0; act d 3 0; act e 4 0; act f 5 0; "
+            + "swing gust*5/12; lean 2*push-gust/12;");
+        for (int way = 0; way < 2; way++) {
+            for (int act = 0; act < 6; act++) {
+                for (int gust = -12; gust <= 12; gust++) {
+                    int lean = 2 * act - gust / 12;
+                    int due = lean > 10 ? -2 : Book.number(0, lean, gust * 5 / 12);
+                    b.is("ACT " + act + ", gust " + gust, x.next(115, act, gust), due);
+                }
+            }
+        }
+        x = b.told(GREATEST_ROPE + "swing swing; lean lean;");
+        b.is("from STATE 0", x.next(0, 0, 0), 231);
+        x = b.told(GREATEST_ROPE + "act a 0 -1; swing -5; lean -10;");
+        b.is("into STATE 0", x.next(7 * 231 + 230, 0, 0), 6 * 231);
+        b.is("into STATE 0", x.next(230, 0, 0), 0);
         b.says(10, "-2: the walker FALLS;");
         x = b.told("rope 2; wide 1; fast 1; act a 0 1; act b 0 0 if lean == 0;");
         b.is("too fast", x.next(115, 0, 2), -2);

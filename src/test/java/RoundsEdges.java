@@ -5,7 +5,8 @@ final class RoundsEdges {
      * Behind it stand the ACTS, by which the way ends ahead of the last place, or goes on into it.
      */
     static final String WAY = "rope 8; wide 10; fast 5; swing swing+1-(swing+5)/10*11;"
-        + "lean lean+(5-swing)/10-(lean+10)/20*21*((5-swing)/10); act st 0 0 if lean != 10 or swing != 5; act up 0 1 if lean == 10 and swing == 5";
+        + "lean lean+(5-swing)/10-(lean+10)/20*21*((5-swing)/10); act st 0 0 if lean != 10 or swing != 5; "
+            + "act up 0 1 if lean == 10 and swing == 5";
     static final String WAY_DOWN = WAY + " and at != 7;";
     static final String WAY_OVER = WAY + ";";
     /** How many STATES of that ROPE are not OVER. */
@@ -34,7 +35,8 @@ final class RoundsEdges {
     }
 
     private void standing() {
-        b.says("Terms", "STANDING n BEATS from a STATE: n 0, or it is OVER, or there is an ACT that CAN be done with which,"
+        b.says("Terms", "STANDING n BEATS from a STATE: n 0, or it is OVER, or there is an ACT that CAN be done with "
+            + "which,"
             + " whatever gust of that STATE comes, the walker does not fall and can stand n - 1 BEATS from there.");
         b.is("no ACT CAN be done", b.told("act a 0 0 if 1<1;").fate(115), 0);
         b.is("the ACT with which one stands can't be done", b.told("act a 9 0; act b 0 0 if 1<1;").fate(115), 0);
@@ -54,7 +56,7 @@ final class RoundsEdges {
     private void fate() {
         b.says("Terms", "FATE: the greatest such n, or for ever: the STATE is SAFE.");
         RopeSchool x = b.told(WAY_DOWN);
-        for (int s = 0; s < OPEN; s += s == 1840 ? 1 : 8) {
+        for (int s = 0; s < OPEN; s += s < 1840 ? 8 : 1) {
             b.is("fate of " + s, x.fate(s), OPEN - 1 - s);
         }
         b.is("fate of the last one", x.fate(OPEN - 1), 0);
@@ -70,6 +72,10 @@ final class RoundsEdges {
         for (int lean = -10; lean <= 10; lean++) {
             b.is("the greatest n from lean " + lean, x.fate(Book.number(0, lean, 0)), 10 - lean);
         }
+        RopeSchool down = b.told("wide 10; fast 5; act a -2 0; act b -1 0; act c -3 0; swing 0; lean lean+push;");
+        for (int lean = -10; lean <= 10; lean++) {
+            b.is("the other way from lean " + lean, down.fate(Book.number(0, lean, 0)), 10 + lean);
+        }
         b.says(11, "FATE;");
         b.is("0", x.fate(Book.number(0, 10, 0)), 0);
         b.is("1", x.fate(Book.number(3, 9, 5)), 1);
@@ -80,7 +86,8 @@ final class RoundsEdges {
     }
 
     private void keep() {
-        b.says("Terms", "KEEP: the first ACT with which FATE is kept (all STATES then have one less at least, SAFE ones are SAFE;");
+        b.says("Terms", "KEEP: the first ACT with which FATE is kept (all STATES then have one less at least, SAFE "
+            + "ones are SAFE;");
         RopeSchool x = b.told("wide 10; fast 5; act a 2 0; act b 1 0; act c 1 0; swing 0; lean lean+push;");
         for (int lean = -10; lean <= 9; lean++) {
             b.is("one less at least, lean " + lean, x.keep(Book.number(0, lean, 0)), 1);
@@ -105,6 +112,10 @@ final class RoundsEdges {
         b.is("keep", x.keep(115), 1);
         x = b.told("wide 10; fast 5; act a 2 0; act b 1 0; act c 3 0; swing 0; lean lean+push;");
         b.is("all fall", x.keep(Book.number(0, 10, 0)), 0);
+        b.is("all fall from STATE 0", b.told("rope 8; wide 10; fast 5; act n 0 0 if lean == 0; act a 9 0; "
+            + "act b 9 0;").keep(0), 1);
+        b.is("all fall from the last that is not OVER", b.told("rope 8; wide 10; fast 5; act a 9 0; "
+            + "act b 9 0;").keep(OPEN - 1), 0);
         b.says(12, "KEEP;");
         b.is("keep", x.keep(115), 1);
         b.says(12, "-2: no ACT CAN be done, it is OVER;");
@@ -119,9 +130,10 @@ final class RoundsEdges {
     }
 
     private void reach() {
-        b.says("Terms", "REACH: the fewest BEATS after which, whatever gusts come, the walker is OVER at the latest, if the best ACTS are done;");
+        b.says("Terms", "REACH: the fewest BEATS after which, whatever gusts come, the walker is OVER at the latest, "
+            + "if the best ACTS are done;");
         RopeSchool x = b.told(WAY_OVER);
-        for (int s = 0; s < OPEN; s += s == 1840 ? 1 : 8) {
+        for (int s = 0; s < OPEN; s += s < 1840 ? 8 : 1) {
             b.is("reach of " + s, x.reach(s), OPEN - s);
         }
         x = b.told("rope 4; act up 0 1 if lean == 0; act st 0 0 if lean == 1; gusts 1 1 0 1; swing 0; lean gust;");
@@ -175,7 +187,8 @@ final class RoundsEdges {
 
     private void safe() {
         b.says(15, "How many STATES AT a place are SAFE;");
-        RopeSchool x = b.told("rope 8; wide 10; fast 5; act a 0 0 if lean == 10 and at == 7 or at == 0; act b 0 1 if swing == 5 and at == 6; swing swing; lean lean;");
+        RopeSchool x = b.told("rope 8; wide 10; fast 5; act a 0 0 if lean == 10 and at == 7 or at == 0; "
+            + "act b 0 1 if swing == 5 and at == 6; swing swing; lean lean;");
         int[] want = {231, 0, 0, 0, 0, 0, 1, 11, 231};
         for (int at = 0; at <= 8; at++) {
             b.is("safe(" + at + ")", x.safe(at), want[at]);
@@ -196,8 +209,10 @@ final class RoundsEdges {
 
     private void edge() {
         b.says(16, "The least (most: the greatest) LEAN of SAFE STATES with AT and SWING;");
-        RopeSchool x = b.told("rope 8; wide 10; fast 5; swing swing; lean lean; act a 0 0 if swing == -5 and (lean+3)*(lean-2)*(lean-4) == 0;"
-            + "act b 0 0 if swing == 5 and lean == -10; act c 0 0 if swing == 4 and lean == 10; act d 0 0 if swing == 3; act e 0 0 if at == 7 and lean*swing == 30/5;");
+        RopeSchool x = b.told("rope 8; wide 10; fast 5; swing swing; lean lean; "
+            + "act a 0 0 if swing == -5 and (lean+3)*(lean-2)*(lean-4) == 0;"
+            + "act b 0 0 if swing == 5 and lean == -10; act c 0 0 if swing == 4 and lean == 10; "
+                + "act d 0 0 if swing == 3; act e 0 0 if at == 7 and lean*swing == 30/5;");
         b.is("with gaps", x.edge(0, -5, false), -3);
         b.is("with gaps", x.edge(7, -5, true), 4);
         b.is("the least one alone", x.edge(0, 5, false), -10);
@@ -210,7 +225,8 @@ final class RoundsEdges {
         b.is("AT 7", x.edge(7, -2, false), -3);
         b.is("OVER", x.edge(8, 0, false), -10);
         b.is("OVER", x.edge(8, 0, true), 10);
-        b.is("0 alone", b.told("rope 1; wide 1; fast 1; act a 0 0 if lean == 0; swing 0; lean lean;").edge(0, 1, true), 0);
+        b.is("0 alone", b.told("rope 1; wide 1; fast 1; act a 0 0 if lean == 0; swing 0; "
+            + "lean lean;").edge(0, 1, true), 0);
         b.says(16, "-100: there is none, no such ones.");
         b.is("there is none", x.edge(0, 0, false), -100);
         b.is("there is none", x.edge(0, 0, true), -100);
@@ -232,7 +248,8 @@ final class RoundsEdges {
         b.says(17, "The greatest FATE of those that are not SAFE;");
         b.is("the longest way", b.told(WAY_DOWN).doom(), OPEN - 1);
         b.is("all fall at once", b.told("swing 9;").doom(), 0);
-        b.is("one STATE alone falls, the first one", b.told("rope 8; wide 10; fast 5; act a 0 0 if at+lean+swing != -15; swing swing; lean lean;").doom(), 0);
+        b.is("one STATE alone falls, the first one", b.told("rope 8; wide 10; fast 5; "
+            + "act a 0 0 if at+lean+swing != -15; swing swing; lean lean;").doom(), 0);
         b.is("one STATE alone falls, the last that is not OVER",
             b.told("rope 8; wide 10; fast 5; act a 0 0 if at+lean+swing != 22; swing swing; lean lean;").doom(), 0);
         b.says(17, "NONE: all are SAFE.");
@@ -245,7 +262,8 @@ final class RoundsEdges {
     }
 
     private void borne() {
-        b.says("Terms", "BORNE: the greatest k of 0 .. 6 so that the STATE is SAFE if all gusts c .. d are c - k .. d + k (0 alone: -k .. k).");
+        b.says("Terms", "BORNE: the greatest k of 0 .. 6 so that the STATE is SAFE if all gusts c .. d are c - k .. d "
+            + "+ k (0 alone: -k .. k).");
         for (int wide = 1; wide <= 10; wide++) {
             String start = "wide " + wide + "; act a 0 0; swing 0; lean ";
             b.is("0 alone, wide " + wide, b.told(start + "gust;").borne(115), Math.min(wide, 6));
@@ -257,7 +275,8 @@ final class RoundsEdges {
             b.is("-6 .. 6, wide " + wide, b.told(start + "gust; gusts 0 8 -6 6;").borne(115), wide < 6 ? -2 : wide - 6);
         }
         b.is("-12 .. 12 is borne", b.told("wide 10; act a 0 0; swing 0; lean gust*5/6; gusts 0 8 -6 6;").borne(115), 6);
-        b.is("only gusts below", b.told("wide 10; act a 0 0; swing 0; lean gust*(gust-9)/9; gusts 0 8 0 0;").borne(115), 6);
+        b.is("only gusts below", b.told("wide 10; act a 0 0; swing 0; lean gust*(gust-9)/9; "
+            + "gusts 0 8 0 0;").borne(115), 6);
     }
 
     private void borneFurther() {
@@ -266,9 +285,44 @@ final class RoundsEdges {
         b.is("AT 1", x.borne(346), 2);
         x = b.told("rope 2; wide 5; act up 0 1; act st 0 0; gusts 1 1 3 3; swing 0; lean gust;");
         b.is("if one has to go there", x.borne(115), 5);
-        x = b.told("wide 10; act a 0 0 if at == 0; swing 0; lean lean/2+gust; gusts 0 8 -1 1 if 2 < lean; gusts 0 8 2 2 if lean < -2;");
+        x = b.told("wide 10; act a 0 0 if at == 0; swing 0; lean lean/2+gust; gusts 0 8 -1 1 if 2 < lean; "
+            + "gusts 0 8 2 2 if lean < -2;");
         // 10 / 2 + 1 + k, and -10 / 2 - .. : 5 + 1 + 4 is 10
         b.is("gusts of other STATES", x.borne(115), 4);
+        for (int most = 1; most <= 6; most++) {
+            x = b.told("wide 10; act a 0 0 if lean < " + most + " and -" + most + " < lean; swing 0; lean gust;");
+            b.is("gust " + most + " leads to where no ACT CAN be done", x.borne(115), most - 1);
+        }
+        // lean 1 leads to -1, that to 0, and from there any gust but 0 is a fall
+        x = b.told("rope 1; wide 1; fast 1; act a 0 0; swing 0; lean lean-2+(1-lean)*3/2+(1-lean*lean)*gust*9;");
+        for (int lean = -1; lean <= 1; lean++) {
+            b.is("a fall by gust 1 two BEATS on", x.borne(Book.number(0, lean, 1)), 0);
+        }
+        x = b.told("rope 8; wide 10; fast 5; act a 0 0; swing 0; lean lean+gust*(lean+3)/12; gusts 0 0 0 0;");
+        b.is("what was asked for first is not all: the lesser one", x.borne(Book.number(0, 10, 0)), 0);
+        b.is("then the greatest one", x.borne(Book.number(0, -3, 0)), 6);
+        // 3 * 3 / 12 is 0, 4 * 3 / 12 is 1, and from there on it is ever more
+        b.is("then one between", x.borne(115), 3);
+        x = b.told("wide 6; swing 0; lean gust*push; act a 1 0 if lean < 0; act b 2 0 if 0 < lean; "
+            + "act c 3 0 if lean == 0; act d 0 0 if lean == 6;");
+        b.is("lean 0: 3 * 2 is 6, 3 * 3 is 9", x.borne(115), 2);
+        x = b.told("rope 8; wide 10; fast 5; act a 1 0; swing 0; lean lean+gust*at; act b 0 1 if at == 7;");
+        for (int at = 7; at >= 0; at--) {
+            x.reach(115);
+            x.poles(115);
+            b.is("gusts grow with AT " + at, x.borne(Book.number(at, 0, 0)), at == 0 ? 6 : at == 7 ? 1 : 0);
+        }
+        x = b.told("wide 10; act a 0 0 if pole == 1 and lean < 3; act b 0 0 if pole == 2; swing swing; lean lean;");
+        b.is("other POLES are asked for", x.poles(Book.number(0, 3, 0)), 2);
+        b.is("then what is BORNE with this one", x.borne(115), 6);
+        x = b.told("wide 10; act a 0 0 if 5 < lean; swing 0; lean lean+gust*20;");
+        b.is("FATE is asked for", x.fate(115), 0);
+        b.is("then REACH", x.reach(115), -2);
+        b.is("then what is BORNE", x.borne(Book.number(3, 10, 3)), 0);
+        x = b.told("rope 8; wide 10; fast 5; act a 0 0; swing swing; lean lean;");
+        b.is("STATE 0", x.borne(0), 6);
+        b.is("the last STATE that is not OVER", x.borne(OPEN - 1), 6);
+        b.is("the last STATE", x.borne(2078), 6);
         b.says(18, "BORNE;");
         b.is("6", b.told("act a 0 0; swing 0; lean lean;").borne(115), 6);
         b.is("0", b.told("wide 1; act a 0 0; swing 0; lean gust*2;").borne(115), 0);
@@ -286,8 +340,8 @@ final class RoundsEdges {
 
     private void poles() {
         b.says("Terms", "POLES: the least POLE with which it is SAFE.");
-        String[] conds = {"pole == 1", "pole == 2", "pole == 3", "pole == 4", "2 <= pole", "pole == 2 or pole == 4", "pole != 1 and pole != 2",
-            "1 == 1", "1 == 2", "4 < pole", "pole < 1"};
+        String[] conds = {"pole == 1", "pole == 2", "pole == 3", "pole == 4", "2 <= pole", "pole == 2 or pole == 4",
+            "pole != 1 and pole != 2", "1 == 1", "1 == 2", "4 < pole", "pole < 1"};
         int[] want = {1, 2, 3, 4, 2, 2, 3, 1, -2, -2, -2};
         for (int i = 0; i < conds.length; i++) {
             for (int p = 1; p <= 4; p++) {
@@ -299,11 +353,24 @@ final class RoundsEdges {
                 b.is("the POLE stays", x.count(6), p);
                 b.is("the WALK stays", x.count(13), 115);
                 b.is("SAFE ones stay", x.count(12), safe);
-                b.is("what CAN be done stays", x.can(126, 0), b.told("act a 0 0 if " + conds[i].replace("pole", "" + p) + ";").can(126, 0));
+                RopeSchool same = b.told("act a 0 0 if " + conds[i].replace("pole", "" + p) + ";");
+                b.is("what CAN be done stays", x.can(126, 0), same.can(126, 0));
             }
         }
         b.is("by a law", b.told("act a 0 0; fast 1; swing 6-2*pole; lean 0;").poles(115), 3);
-        b.is("by gusts", b.told("act a 0 0; wide 3; swing 0; lean gust; gusts 0 8 4 4; gusts 0 8 3 3 if pole == 4;").poles(115), 4);
+        b.is("POLE 1 has the second ACT for a while, POLE 2 the first one alone",
+            b.told("act a 0 0 if pole == 2; act b 0 1 if at == 0 and pole == 1;").poles(115), 2);
+        RopeSchool z = b.told("rope 1; wide 1; fast 1; act a 0 0 if lean != 0; swing 0; lean lean-2+(1-lean)*3/2;");
+        for (int lean = -1; lean <= 1; lean++) {
+            b.is("no ACT CAN be done two BEATS on", z.poles(Book.number(0, lean, 1)), -2);
+        }
+        z = b.told("rope 8; wide 10; fast 5; act a 0 0 if at+lean+swing == -15 and pole == 2 or at+lean+swing == 22 "
+            + "and pole == 3; swing swing; lean lean;");
+        b.is("STATE 0", z.poles(0), 2);
+        b.is("the last STATE that is not OVER", z.poles(OPEN - 1), 3);
+        b.is("one between", z.poles(115), -2);
+        b.is("by gusts", b.told("act a 0 0; wide 3; swing 0; lean gust; gusts 0 8 4 4; "
+            + "gusts 0 8 3 3 if pole == 4;").poles(115), 4);
         RopeSchool x = b.told("rope 2; wide 2; fast 2; act l 1 0; act r -1 0; act go 0 1; gusts 0 1 0 1;");
         b.is("learn", x.learn(115), 5);
         b.is("POLE 1 does", x.poles(115), 1);

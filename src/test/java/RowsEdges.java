@@ -1,7 +1,8 @@
 /** The edges of FORECASTS, KNOWN and BLIND: promises 20 to 25. */
 final class RowsEdges {
     /** One gets OVER by the BEAT behind gust 1, and stays up with any gust of -5 .. 5. */
-    private static final String WAIT = "rope 1; wide 10; fast 5; act st 0 0; act go 0 1 if swing == 1; act gp 0 1 if swing == 1; swing gust; lean 0;";
+    private static final String WAIT = "rope 1; wide 10; fast 5; act st 0 0; act go 0 1 if swing == 1; "
+        + "act gp 0 1 if swing == 1; swing gust; lean 0;";
     private final Book b;
 
     RowsEdges(Book book) {
@@ -18,7 +19,8 @@ final class RowsEdges {
     }
 
     private void forecast() {
-        b.says("Terms", "FORECASTS: gusts that are known ahead (24 at most, -12 .. 12 each), the first for the first BEAT, .. .");
+        b.says("Terms", "FORECASTS: gusts that are known ahead (24 at most, -12 .. 12 each), the first for the first "
+            + "BEAT, .. .");
         RopeSchool x = b.told("rope 2; wide 10; fast 5; act up 0 1; swing 0; lean lean*3+gust;");
         x.forecast(3);
         x.forecast(1);
@@ -35,6 +37,16 @@ final class RowsEdges {
         x.forecast(2);
         x.forecast(3);
         b.is("2 * 3 + 3 is 9", x.known(115), 2);
+        x = b.told("rope 2; wide 10; fast 5; act up 0 1; act ub 1 1; swing 0; lean gust*push*pole;");
+        b.is("none yet", x.known(115), -2);
+        x.forecast(5);
+        b.is("one is not enough", x.known(115), -2);
+        x.forecast(5);
+        b.is("two are", x.known(115), 2);
+        x.clear();
+        x.forecast(-5);
+        x.forecast(11);
+        b.is("others", x.knownAct(115, 0) + x.knownAct(115, 1), 0);
         b.says(20, "A FORECAST more: how many there are.");
         x = b.told(WAIT);
         for (int i = 1; i <= 24; i++) {
@@ -169,6 +181,34 @@ final class RowsEdges {
         // c would lean by -2, then by -4: but e follows
         b.is("the first one goes ahead", x.knownAct(115, 0), 1);
         b.is("the second one follows", x.knownAct(115, 1), 2);
+        x = b.told("rope 1; wide 10; fast 5; act a 1 1; act c 0 1; swing 0; lean gust*push*pole;");
+        x.forecast(5);
+        b.is("POLE 1: 5", x.knownAct(115, 0), 0);
+        x.pole(3);
+        b.is("POLE 3: 15", x.knownAct(115, 0), 1);
+        x.pole(2);
+        b.is("POLE 2: 10", x.knownAct(115, 0), 0);
+        x = b.told("rope 2; wide 10; act a 1 1; act b 0 1; swing 0; lean lean*gust+push;");
+        x.forecast(0);
+        x.forecast(1);
+        b.is("by lean 1", x.knownAct(115, 0), 0);
+        x.clear();
+        x.forecast(0);
+        x.forecast(12);
+        b.is("lean 1 would do no more", x.knownAct(115, 0), 1);
+        x = b.told("rope 8; wide 10; fast 5; act a 0 0; act b 0 1; swing swing; lean lean;");
+        for (int i = 0; i < 9; i++) {
+            x.forecast(0);
+        }
+        b.is("from STATE 0", x.known(0), 8);
+        b.is("from STATE 0", x.knownAct(0, 0), 1);
+        b.is("from the last STATE that is not OVER", x.known(RoundsEdges.OPEN - 1), 1);
+        x = b.told("rope 1; wide 10; fast 5; act in 0 0 if lean != -10; act up 0 1 if lean == -10; swing -5; "
+            + "lean -10;");
+        x.forecast(0);
+        x.forecast(0);
+        b.is("through STATE 0", x.known(115), 2);
+        b.is("through STATE 0", x.knownAct(115, 1), 1);
         b.says(23, "The i-th ACT (from 0 on) of KNOWN;");
         x = b.told(RoundsEdges.WAY_OVER);
         for (int i = 0; i < 24; i++) {
@@ -199,32 +239,45 @@ final class RowsEdges {
         b.says("Terms", "BLIND: rows of n ACTS (1 .. 4), chosen ahead, with which whatever gusts come nobody falls,"
             + " and each ACT CAN be done in each STATE that may be (who is OVER stays so and does none).");
         for (int fatal = -3; fatal <= 3; fatal++) {
-            RopeSchool x = b.told("act a 0 0; act b 1 0; gusts 0 8 -2 2; swing 0; lean push*9/(1+(gust-" + fatal + ")*(gust-" + fatal + ")*9);");
+            RopeSchool x = b.told("act a 0 0; act b 1 0; gusts 0 8 -2 2; swing 0; "
+                + "lean push*9/(1+(gust-" + fatal + ")*(gust-" + fatal + ")*9);");
             boolean falls = fatal >= -2 && fatal <= 2;
             for (int n = 1; n <= 4; n++) {
                 b.is("gust " + fatal + " alone makes b fall, n " + n, x.blind(115, n), falls ? 1 : 1 << n);
             }
         }
-        RopeSchool x = b.told("rope 8; act a 0 1 if lean == 0; act b 0 1 if lean == 1; act c 0 1; gusts 0 0 0 1; swing 0; lean lean+gust;");
+        RopeSchool x = b.told("rope 8; act a 0 1 if lean == 0; act b 0 1 if lean == 1; act c 0 1; gusts 0 0 0 1; "
+            + "swing 0; lean lean+gust;");
         b.is("one", x.blind(115, 1), 2);
         b.is("lean 0 or 1 then: c alone CAN be done in both", x.blind(115, 2), 2);
         b.is("and on", x.blind(115, 4), 2);
         b.is("AT 1 lean is known", x.blind(346, 2), 4);
-        x = b.told("rope 2; wide 10; fast 5; act a 0 1; act b 0 0 if at == 0; act c 9 0; gusts 0 0 0 1; swing 0; lean push*99;");
+        x = b.told("rope 2; wide 10; fast 5; act a 0 1; act b 0 0 if at == 0; act c 9 0; gusts 0 0 0 1; swing 0; "
+            + "lean push*99;");
         b.is("a, b", x.blind(115, 1), 2);
         b.is("a a, b a, b b; AT 1 b can't be done", x.blind(115, 2), 3);
         b.is("a a and any, b a a, b b a, b b b", x.blind(115, 3), 3 + 3);
         b.is("a a and any two, b a a and any, b b and three", x.blind(115, 4), 9 + 3 + 3);
         b.is("OVER", x.blind(Book.number(2, 0, 0), 4), 81);
         b.is("OVER", x.blind(Book.number(2, 10, 5), 1), 3);
-        x = b.told("rope 1; wide 10; fast 5; act up 0 1 if lean < 1; act st 0 0 if lean == 0; act s 0 0; gusts 0 0 0 1 if lean == 0; swing 0; lean lean+gust;");
+        x = b.told("rope 1; wide 10; fast 5; act up 0 1 if lean < 1; act st 0 0 if lean == 0; act s 0 0; "
+            + "gusts 0 0 0 1 if lean == 0; swing 0; lean lean+gust;");
         b.is("some are OVER, some are not: all that may be do", x.blind(115, 2), 3 + 1 + 1);
+        x = b.told("rope 8; wide 10; fast 5; act a 0 0 if lean < 3; swing 0; lean lean+(gust+6)/12; gusts 0 8 -6 6;");
+        b.is("three", x.blind(115, 3), 1);
+        b.is("of 2,197 rows of gusts the last alone leads to where the ACT can't be done", x.blind(115, 4), 0);
+        x = b.told("rope 1; wide 10; fast 5; act in 0 0 if lean != -10; act up 0 1 if lean == -10; swing -5; "
+            + "lean -10;");
+        b.is("through STATE 0", x.blind(115, 2), 1);
+        b.is("from STATE 0", x.blind(0, 1), 1);
+        b.is("from the last STATE that is not OVER", x.blind(230, 2), 1);
         b.says(24, "How many rows there are, BLIND;");
         b.is("none", b.told("swing 9;").blind(115, 1), 0);
         b.is("no ACT CAN be done", b.told("act a 0 0 if 1<1;").blind(115, 4), 0);
         b.is("all", b.told("act a 0 0; act b 0 0; act c 0 0; act d 0 0; act e 0 0; act f 0 0;").blind(115, 4), 1296);
         b.is("all, n 1", b.told("act a 0 0; act b 0 0; act c 0 0; act d 0 0; act e 0 0; act f 0 0;").blind(115, 1), 6);
-        b.is("all gusts lead elsewhere", b.told("wide 10; fast 5; act a 0 0; swing gust*5/6; lean gust*3/2; gusts 0 8 -6 6;").blind(115, 4), 1);
+        b.is("all gusts lead elsewhere", b.told("wide 10; fast 5; act a 0 0; swing gust*5/6; lean gust*3/2; "
+            + "gusts 0 8 -6 6;").blind(115, 4), 1);
         b.says(24, "NONE: no such STATE, n.");
         x = b.told("act a 0 0;");
         for (int n : Book.beyond(1, 4)) {

@@ -69,7 +69,8 @@ final class TextEdges {
 
     private void newObject() {
         b.says(1, "A ROPE of which nothing is told; SLOTS are empty.");
-        RopeSchool other = b.told("rope 2; wide 2; fast 2; act a 1 0; act b -1 0; act c 0 1; gusts 0 1 0 1; reflex 1<2 do b;");
+        RopeSchool other = b.told("rope 2; wide 2; fast 2; act a 1 0; act b -1 0; act c 0 1; gusts 0 1 0 1; "
+            + "reflex 1<2 do b;");
         other.pole(3);
         other.forecast(1);
         other.hold(0);
@@ -174,7 +175,8 @@ final class TextEdges {
     private void read() {
         b.says(4, "The tape, which is empty then, is read: 0, or the number of its FAULT.");
         RopeSchool x = new RopeSchool();
-        String[] texts = {"rope 5;", "rope 5; rope", "swing (((((((1", "act a 0 0; act a 0 0;", "reflex 1<2 do a;", "rope 9;"};
+        String[] texts = {"rope 5;", "rope 5; rope", "swing (((((((1", "act a 0 0; act a 0 0;", "reflex 1<2 do a;",
+            "rope 9;"};
         for (int i = 0; i < texts.length; i++) {
             b.is("read of " + texts[i], Due.read(x, texts[i]), i);
             b.is("bytes then", x.count(10), 0);
@@ -187,6 +189,11 @@ final class TextEdges {
         b.is("a shorter one: the bytes of the longer one are gone", Due.read(x, "rope 2;"), 0);
         b.is("LENGTH", x.count(0), 2);
         b.is("WIDE", x.count(1), 6);
+        for (String broken : new String[] {"swing -(1+(2*", "swing 5-2*;", "lean -", "act a 0 0 if not 1<-;"}) {
+            b.is("read of " + broken, Due.read(x, broken), 1);
+            b.is("a good one behind it", Due.read(x, "swing 2; lean swing+1; act a 0 0 if 1 < 2;"), 0);
+            b.is("what it tells", x.next(115, 0, 0), Book.number(0, 3, 2));
+        }
     }
 
     private void place() {
@@ -236,7 +243,8 @@ final class TextEdges {
             b.fault((char) c + "\t;", 1, isBlank(c) ? 2 : 0);
         }
         b.fine("\r\n\t rope \t\r\n 4 \n;\t");
-        b.fine("rope7;wide3;act a-1-1if not 1<2and-1<=1;gusts 1 2-3-2if(1)==1or 1!=1;reflex 1<2do a;swing-1;lean(1)--2;");
+        b.fine("rope7;wide3;act a-1-1if not 1<2and-1<=1;gusts 1 2-3-2if(1)==1or 1!=1;reflex 1<2do "
+            + "a;swing-1;lean(1)--2;");
         b.fault("act a 0 0 ifnot 1<2;", 1, 10);
         b.fault("gust s 0 0 0 0;", 1, 0);
         b.fault("act a 0 0 if 1< =2;", 1, 16);
@@ -276,7 +284,8 @@ final class TextEdges {
         b.fault("swing 999999999999999;", 1, 6);
         b.fault("rope :;", 1, 5);
         b.fault("rope /;", 1, 5);
-        RopeSchool x = b.told("rope 0008; wide 010; act a 0009 0001 if 9999 == 9998+1 and 1234 == 1000+200+30+4 and 0010 == 10;");
+        RopeSchool x = b.told("rope 0008; wide 010; act a 0009 0001 if 9999 == 9998+1 and 1234 == 1000+200+30+4 and "
+            + "0010 == 10;");
         b.is("rope 0008", x.count(0), 8);
         b.is("wide 010", x.count(1), 10);
         b.is("four digits are their number", x.can(115, 0), 1);
@@ -439,7 +448,8 @@ final class TextEdges {
         String[] comparisons = {"==", "!=", "<", "<="};
         boolean[][] want = {{false, true, false}, {true, false, true}, {true, false, false}, {true, true, false}};
         for (int c = 0; c < 4; c++) {
-            RopeSchool x = b.told("act a 0 0 if lean " + comparisons[c] + " 0; act b 0 0 if not lean " + comparisons[c] + " 0;");
+            String lit = "lean " + comparisons[c] + " 0";
+            RopeSchool x = b.told("act a 0 0 if " + lit + "; act b 0 0 if not " + lit + ";");
             for (int lean = -1; lean <= 1; lean++) {
                 int s = x.state(0, lean, 0);
                 b.is(lean + comparisons[c] + 0, x.can(s, 0), want[c][lean + 1] ? 1 : 0);
@@ -493,7 +503,8 @@ final class TextEdges {
         b.fault("swing 2 at;", 1, 8);
         b.says("Terms", "VAR: 'at' | 'lean' | 'swing' | 'push' | 'gust' | 'pole'.");
         b.fine("swing at+lean+swing+push+gust+pole; lean at+lean+swing+push+gust+pole;");
-        for (String word : new String[] {"rope", "wide", "fast", "act", "gusts", "reflex", "if", "do", "or", "and", "not", "a"}) {
+        for (String word : new String[] {"rope", "wide", "fast", "act", "gusts", "reflex", "if", "do", "or", "and",
+            "not", "a"}) {
             b.fault("act a 0 0; swing " + word + ";", 1, 17);
         }
     }
@@ -549,6 +560,7 @@ final class TextEdges {
         b.is("397 signs are counted", x.next(115, 0, 0), Book.number(1, -1, -1));
         x = b.told("act a 0 0 if " + "not ".repeat(391) + "1<1;");
         b.is("391 nots are counted", x.can(115, 0), 1);
+        lastTokens();
         b.says("Terms", "a 7th ( within one another.");
         b.fine("swing " + "(".repeat(6) + "1" + ")".repeat(6) + ";");
         b.fault("swing " + "(".repeat(7) + "1" + ")".repeat(7) + ";", 2, 12);
@@ -562,6 +574,33 @@ final class TextEdges {
         b.fault("act a 0 0 if ((((((1))))))<(((((((2)))))));", 2, 33);
         b.fault("gusts 0 0 0 0 if (((((((2)))))))<1;", 2, 23);
         b.fault("act a 0 0; reflex 1<(((((((2))))))) do a;", 2, 26);
+    }
+
+    /** Each TOKEN of a TELL is in turn the 401st; what is none there, or no text goes on with, is SYNTAX. */
+    private void lastTokens() {
+        String[] tells = {"rope 4 ;", "swing - ( lean + 1 ) * 2 ;",
+            "act z - 1 - 1 if not not 1 < 2 and at != 3 or ( pole ) <= 4 ;", "act z 1 1 ;",
+            "gusts 0 1 - 2 - 1 if 1 == 1 ;", "gusts 0 1 0 1 ;", "act z 0 0 ; reflex not 1 < 2 do z ;"};
+        for (String tell : tells) {
+            String[] tokens = tell.split(" ");
+            for (int j = 0; j < tokens.length; j++) {
+                int ahead = 400 - j;
+                int fours = ahead % 3;
+                String start = "rope 4;".repeat((ahead - 4 * fours) / 3) + "lean -1;".repeat(fours);
+                StringBuilder text = new StringBuilder(start);
+                for (int i = 0; i < j; i++) {
+                    text.append(tokens[i]).append(' ');
+                }
+                int place = text.length();
+                b.fault(text + "?", 1, place);
+                b.fault(text + "=", 1, place);
+                b.fault(text + "wide9", j == 0 || tokens[j - 1].equals(";") ? 2 : 1, place);
+                for (int i = j; i < tokens.length; i++) {
+                    text.append(tokens[i]).append(' ');
+                }
+                b.fault(text.toString(), 2, place);
+            }
+        }
     }
 
     private void roomOfTells() {
@@ -648,7 +687,8 @@ final class TextEdges {
         b.fault("act a 0 -2;", 5, 9);
         b.fault("act a 9 9;", 5, 8);
         b.fault("act a 10 2;", 5, 6);
-        b.says("Terms", "of gusts a place above 8, the second below the first, a gust above 6, the second below the first.");
+        b.says("Terms", "of gusts a place above 8, the second below the first, a gust above 6, the second below the "
+            + "first.");
         b.fine("gusts 0 8 -6 6; gusts 0 0 -6 -6; gusts 8 8 6 6; gusts 4 4 0 -0; gusts 7 8 -1 0;");
         b.fault("gusts 9 9 0 0;", 5, 6);
         b.fault("gusts 9 8 0 0;", 5, 6);
@@ -670,7 +710,8 @@ final class TextEdges {
 
     // ---- what a text changes ----
 
-    private static final String STEER = "rope 2; wide 2; fast 2; act l 1 0; act r -1 0; act go 0 1; gusts 0 1 0 1; reflex lean == 9 do r;";
+    private static final String STEER = "rope 2; wide 2; fast 2; act l 1 0; act r -1 0; act go 0 1; gusts 0 1 0 1; "
+        + "reflex lean == 9 do r;";
 
     private static RopeSchool busy(Book book, int pole) {
         RopeSchool x = book.told("rope 3;");
@@ -683,6 +724,7 @@ final class TextEdges {
         x.hold(0);
         x.stand(115);
         Due.beat(x, 0, 1);
+        shown(x);
         return x;
     }
 
@@ -711,7 +753,8 @@ final class TextEdges {
 
     private void faultChangesNothing() {
         b.says("Terms", "A text with a FAULT changes nothing;");
-        String good = "rope 3; wide 3; fast 3; act z 1 1; act y 0 0 if lean<1; gusts 0 2 -1 1; reflex 1<2 do z; swing 1; lean 1; ";
+        String good = "rope 3; wide 3; fast 3; act z 1 1; act y 0 0 if lean<1; gusts 0 2 -1 1; reflex 1<2 do z; "
+            + "swing 1; lean 1; ";
         String[] faults = {"x", "swing (((((((1;", "act z 0 0;", "reflex 1<2 do q;", "rope 9;"};
         for (int pole = 1; pole <= 2; pole++) {
             for (int i = 0; i < faults.length; i++) {
@@ -731,7 +774,8 @@ final class TextEdges {
     }
 
     private void newText() {
-        b.says("Terms", "else it is in place of the one ahead: the POLE is 1, nothing is LEARNED, nobody stands on the ROPE, there are no FORECASTS.");
+        b.says("Terms", "else it is in place of the one ahead: the POLE is 1, nothing is LEARNED, nobody stands on "
+            + "the ROPE, there are no FORECASTS.");
         for (String text : new String[] {"", STEER, "rope 3;"}) {
             RopeSchool x = busy(b, 2);
             b.is("read", Due.read(x, text), 0);
@@ -761,6 +805,10 @@ final class TextEdges {
             b.is("proof", x.proof(115), fresh.proof(115));
             b.is("reflex", x.reflex(103), fresh.reflex(103));
             b.is("known", x.known(115), fresh.known(115));
+            b.is("lead", x.lead(115), fresh.lead(115));
+            b.is("doom", x.doom(), fresh.doom());
+            b.is("arrives", x.arrives(115), fresh.arrives(115));
+            b.is("poles of one that was SAFE", x.poles(115), fresh.poles(115));
             b.is("next", x.next(115, 0, 1), fresh.next(115, 0, 1));
             b.is("the law of lean", x.next(127, 0, 0), fresh.next(127, 0, 0));
         }
@@ -768,5 +816,38 @@ final class TextEdges {
         x.read();
         b.is("untold, the laws are not those of the text ahead, nor the ACT", x.next(115, 0, 1), Book.number(1, 1, 1));
         b.is("nor the gusts", x.gust(115, true), 0);
+        String all = "rope 7; wide 9; fast 2; swing 2; lean 3; act a 9 -1 if lean == 1; gusts 0 8 -5 6; "
+            + "reflex lean == 1 do a;";
+        for (int reads = 1; reads <= 3; reads++) {
+            x = new RopeSchool();
+            for (int i = 0; i < reads; i++) {
+                b.is("read", Due.read(x, all), 0);
+                b.is("gusts", x.gust(115, true) * 10 + x.gust(115, false), 55);
+            }
+            for (int i = 0; i < 3; i++) {
+                b.is("read of nothing", x.read(), 0);
+                int[] counts = {4, 6, 3, 1, 0, 0, 1, 0, 0, -1, 0, 5 * 13 * 7};
+                for (int what = 0; what < counts.length; what++) {
+                    b.is("count(" + what + ")", x.count(what), counts[what]);
+                }
+                b.is("the untold ACT and laws", x.next(115, 0, 1), Book.number(1, 1, 1));
+                b.is("no gusts", x.gust(115, true), 0);
+                b.is("no gusts", x.gust(115, false), 0);
+                b.is("no reflex", x.reflex(126), 0);
+            }
+        }
+        x = b.told("act a 0 0;");
+        b.is("poles", x.poles(115), 1);
+        Due.read(x, "act a 0 0 if pole == 3;");
+        b.is("poles of the new text", x.poles(115), 3);
+        Due.read(x, "act a 0 0 if 1<1;");
+        b.is("poles of the new text", x.poles(115), -2);
+        Due.read(x, "act a 0 0;");
+        b.is("poles of the new text", x.poles(115), 1);
+        for (int i = 0; i < 12; i++) {
+            // long texts, again and again: none takes the room of the next
+            b.is("read", Due.read(x, "swing " + "1-".repeat(80) + "-80; lean " + "(1)+".repeat(40) + "0-40;"), 0);
+            b.is("next", x.next(115, 0, 0), Book.number(1, 0, 1 - 79 + 80));
+        }
     }
 }

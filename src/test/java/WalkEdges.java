@@ -3,7 +3,8 @@ final class WalkEdges {
     private static final int NO_STATE = -1000;
     private static final int NO_ARGUMENT = -2000;
     /** Leaning by gusts alone: one falls beyond 2; no ACT CAN be done AT 1 with lean 0 but the second one. */
-    private static final String STEER = "rope 2; wide 2; fast 2; act up 0 1 if at != 1 or lean != 0; act st 0 0; act l 1 0; swing 0; lean lean+gust-push;"
+    private static final String STEER = "rope 2; wide 2; fast 2; act up 0 1 if at != 1 or lean != 0; act st 0 0; "
+        + "act l 1 0; swing 0; lean lean+gust-push;"
         + "gusts 0 1 -1 1; gusts 1 1 2 2 if lean == 1;";
     private final Book b;
 
@@ -70,7 +71,8 @@ final class WalkEdges {
         b.justStates("stand", "act a 0 0;", 0, (y, s) -> y.stand(s) ? 1 : 0);
         x.stand(115);
         Due.beat(x, 0, 1);
-        for (int s : new int[] {-1, 2079, Integer.MIN_VALUE, Integer.MAX_VALUE, Book.number(0, 3, 0), Book.number(3, 0, 0)}) {
+        for (int s : new int[] {-1, 2079, Integer.MIN_VALUE, Integer.MAX_VALUE, Book.number(0, 3, 0), Book.number(3, 0,
+            0)}) {
             b.is("stand " + s, x.stand(s), false);
             b.is("the WALK is as it was", x.count(9), 1);
             b.is("where one stands", x.count(13), Book.number(1, 1, 0));
@@ -90,6 +92,17 @@ final class WalkEdges {
         b.is("up", Due.beat(x, 0, 0), Book.number(1, 0, 0));
         b.is("the gusts of that STATE", Due.beat(x, 1, 1), Book.number(1, 1, 0));
         b.is("BEATS", x.count(9), 5);
+        RopeSchool y = b.told("rope 8; wide 10; fast 5; act a 0 0; act b 0 1; act c 9 0; swing swing-push; lean lean; "
+            + "gusts 0 0 -1 1; gusts 7 7 2 6;");
+        y.stand(0);
+        b.is("from STATE 0 and into it", Due.beat(y, 0, 1), 0);
+        b.is("on", Due.beat(y, 1, -1), 231);
+        b.is("no gust of STATE 231", Due.beat(y, 1, -1), NO_ARGUMENT);
+        y.stand(RoundsEdges.OPEN - 1);
+        b.is("into the last STATE of all", Due.beat(y, 1, 6), 2078);
+        y.stand(0);
+        b.is("a fall from STATE 0", Due.beat(y, 2, 0), -2);
+        b.is("its blame", y.blame(), 0);
         b.says(35, "-2: the walker FELL.");
         b.is("falls", Due.beat(x, 1, 2), -2);
         b.is("the BEAT counts", x.count(9), 6);
@@ -223,7 +236,8 @@ final class WalkEdges {
     }
 
     private void walked() {
-        b.says(37, "Of the i-th BEAT: what 0 the STATE ahead of it, 1 the ACT, 2 the gust, 3 the STATE behind it (-2: FELL);");
+        b.says(37, "Of the i-th BEAT: what 0 the STATE ahead of it, 1 the ACT, 2 the gust, 3 the STATE behind it (-2: "
+            + "FELL);");
         RopeSchool x = b.told(STEER);
         x.stand(115);
         Due.beat(x, 2, 0);
@@ -265,9 +279,11 @@ final class WalkEdges {
     }
 
     private void blame() {
-        b.says("Terms", "BLAME: the first BEAT from a SAFE STATE by an ACT that is not SAFE (with it some gust of the STATE leads to a fall or to a STATE that is not SAFE).");
+        b.says("Terms", "BLAME: the first BEAT from a SAFE STATE by an ACT that is not SAFE (with it some gust of the "
+            + "STATE leads to a fall or to a STATE that is not SAFE).");
         for (int fatal = -3; fatal <= 3; fatal++) {
-            RopeSchool x = b.told("act a 0 0; act b 1 0; gusts 0 8 -2 2; swing 0; lean push*9/(1+(gust-" + fatal + ")*(gust-" + fatal + ")*9);");
+            RopeSchool x = b.told("act a 0 0; act b 1 0; gusts 0 8 -2 2; swing 0; "
+                + "lean push*9/(1+(gust-" + fatal + ")*(gust-" + fatal + ")*9);");
             boolean bad = fatal >= -2 && fatal <= 2;
             x.stand(115);
             Due.beat(x, 0, fatal < 0 ? 2 : -2);
@@ -278,7 +294,8 @@ final class WalkEdges {
             Due.beat(x, 1, fatal < 0 ? 2 : -2);
             b.is("the first one", x.blame(), bad ? 1 : -2);
         }
-        RopeSchool x = b.told("rope 4; act up 0 1 if at != 2; act st 0 0 if at < 2; gusts 0 8 0 1; swing 0; lean lean;");
+        RopeSchool x = b.told("rope 4; act up 0 1 if at != 2; act st 0 0 if at < 2; gusts 0 8 0 1; swing 0; "
+            + "lean lean;");
         x.stand(115);
         b.is("up", Due.beat(x, 0, 0), 346);
         b.is("AT 1 one can stay: SAFE", x.blame(), -2);
@@ -334,7 +351,8 @@ final class WalkEdges {
     // ---- SLOTS ----
 
     private void slots() {
-        b.says("Terms", "SLOTS 0 .. 2 hold SAFE STATES of a time, to be compared (by numbers; empty at first; a new text leaves them).");
+        b.says("Terms", "SLOTS 0 .. 2 hold SAFE STATES of a time, to be compared (by numbers; empty at first; "
+            + "a new text leaves them).");
         RopeSchool x = b.told("rope 1; wide 1; fast 1; act a 0 0 if lean == 0; swing swing; lean lean;");
         for (int slot = 0; slot < 3; slot++) {
             b.is("empty at first", x.compare(slot, 0) + x.compare(slot, 2), 0);
@@ -367,7 +385,8 @@ final class WalkEdges {
 
     private void hold() {
         b.says(40, "SAFE STATES of now are held in a SLOT: how many;");
-        String[] texts = {"act a 0 0 if 1<1;", "rope 8; wide 10; fast 5; swing swing; lean lean;", "rope 1; wide 1; fast 1; act a 9 0;"};
+        String[] texts = {"act a 0 0 if 1<1;", "rope 8; wide 10; fast 5; swing swing; lean lean;", "rope 1; wide 1; "
+            + "fast 1; act a 9 0;"};
         int[] many = {13 * 7, 2079, 9};
         for (int slot = 0; slot < 3; slot++) {
             RopeSchool x = new RopeSchool();
@@ -425,13 +444,15 @@ final class WalkEdges {
     // ---- count ----
 
     private void count() {
-        b.says(42, "0 LENGTH, 1 WIDE, 2 FAST, 3 ACTS (told or not), 4 GUSTS told, 5 reflexes, 6 the POLE, 7 FORECASTS, 8 LEARNED ones,");
+        b.says(42, "0 LENGTH, 1 WIDE, 2 FAST, 3 ACTS (told or not), 4 GUSTS told, 5 reflexes, 6 the POLE, 7 "
+            + "FORECASTS, 8 LEARNED ones,");
         RopeSchool x = b.told("rope 1; wide 2; fast 5;");
         int[] least = {1, 2, 5, 1, 0, 0, 1, 0, 0};
         for (int what = 0; what < least.length; what++) {
             b.is("count(" + what + ")", x.count(what), least[what]);
         }
-        x = b.told("rope 8; wide 10; fast 1; swing push*9; lean lean; act a 9 0; act b 0 1; act c 0 0; act d 0 0; act e 0 0; act f 0 0;"
+        x = b.told("rope 8; wide 10; fast 1; swing push*9; lean lean; act a 9 0; act b 0 1; act c 0 0; act d 0 0; "
+            + "act e 0 0; act f 0 0;"
             + "gusts 0 8 0 0;".repeat(8) + "reflex 1<1 do a;".repeat(12));
         x.pole(4);
         for (int i = 0; i < 24; i++) {
