@@ -235,6 +235,8 @@ final class ReflexEdges {
         b.is("from STATE 0", x.odds(0, 1, 1), 3);
         b.is("no fall in STATE 0", x.odds(115, 2, 0), 0);
         b.is("STATE 0 at first", x.odds(0, 0, 2), 1);
+        b.is("OVER in the first STATE of the last place", x.odds(0, 1, 2), 3);
+        b.is("OVER in it at first", x.odds(231, 0, 2), 1);
     }
 
     private void oddsOfMany() {

@@ -499,7 +499,10 @@ final class RopeEdges {
             }
         }
         x = b.told(GREATEST_ROPE + "swing swing; lean lean;");
-        b.is("from STATE 0", x.next(0, 0, 0), 231);
+        for (int gust = -12; gust <= 12; gust++) {
+            b.is("from STATE 0, gust " + gust, x.next(0, 0, gust), 231);
+            b.is("from the last STATE that is not OVER, gust " + gust, x.next(8 * 231 - 1, 0, gust), 2078);
+        }
         x = b.told(GREATEST_ROPE + "act a 0 -1; swing -5; lean -10;");
         b.is("into STATE 0", x.next(7 * 231 + 230, 0, 0), 6 * 231);
         b.is("into STATE 0", x.next(230, 0, 0), 0);

@@ -323,6 +323,11 @@ final class RoundsEdges {
         b.is("STATE 0", x.borne(0), 6);
         b.is("the last STATE that is not OVER", x.borne(OPEN - 1), 6);
         b.is("the last STATE", x.borne(2078), 6);
+        b.is("a new object, three BEATS", new RopeSchool().borne(Book.number(1, 0, 0)), 1);
+        b.is("a new object, two BEATS", new RopeSchool().borne(Book.number(2, 0, 0)), 1);
+        b.is("a new object, one BEAT", new RopeSchool().borne(Book.number(3, 0, 0)), 3);
+        b.is("a new object, OVER", new RopeSchool().borne(Book.number(4, 0, 0)), 6);
+        b.is("a new object, one falls", new RopeSchool().borne(Book.number(0, 6, 3)), -2);
         b.says(18, "BORNE;");
         b.is("6", b.told("act a 0 0; swing 0; lean lean;").borne(115), 6);
         b.is("0", b.told("wide 1; act a 0 0; swing 0; lean gust*2;").borne(115), 0);
