@@ -43,12 +43,13 @@ public final class RopeSchool {
 
     public RopeSchool() {
         Rope untold = new Rope();
+        Rope blank = new Rope();
         Beats shared = new Beats(untold);
         faultPlace = NONE;
         pole = 1;
         rope = untold;
-        draft = new Rope();
-        parser = new Parser();
+        draft = blank;
+        parser = new Parser(blank);
         beats = shared;
         rounds = new Rounds(shared);
         reflexes = new Reflexes(shared);
@@ -480,7 +481,7 @@ public final class RopeSchool {
         final int[] kinds = new int[MOST_TOKENS + 1];
         final int[] starts = new int[MOST_TOKENS + 1];
         final long[] values = new long[MOST_TOKENS + 1];
-        private int[] text;
+        private int[] text = new int[0];
         private int size;
         private int cursor;
 
@@ -630,6 +631,10 @@ public final class RopeSchool {
         private int waiting;
         private final int[] operators = new int[MOST_TOKENS + 1];
         private final Tokens tokens = new Tokens();
+
+        Parser(Rope firstDraft) {
+            rope = firstDraft;
+        }
 
         /** The number of the FAULT, or 0; place is its byte then, or NONE. */
         int parse(int[] tape, int taped, Rope draft) {

@@ -6,7 +6,10 @@ import java.lang.reflect.Modifier;
 import java.util.IdentityHashMap;
 import java.util.Map;
 
-/** All calls of a run live in one room: an object is small when made, and its calls make nothing more. */
+/**
+ * All calls of a run live in one room: an object is small when made, and its calls make nothing more. Nothing in it is
+ * null, so no call can meet one.
+ */
 public final class RoomTests {
     private static final Due DUE = new Due();
     private static final String TEXT = "rope 8; wide 10; fast 5; act a 2 1; act b -2 1; act c 1 0 if lean<3 and not swing<-1;"
@@ -24,6 +27,7 @@ public final class RoomTests {
         for (Field f : of.getClass().getDeclaredFields()) {
             if (!Modifier.isStatic(f.getModifiers())) {
                 f.setAccessible(true);
+                DUE.is("a new object's " + f + " is there", f.get(of) != null, true);
                 found += 1 + (f.getType().isPrimitive() ? 0 : elements(f.get(of), met));
             }
         }
